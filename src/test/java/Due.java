@@ -1,0 +1,69 @@
+/** What the project's tests share: compares answers, counts those that are wrong, and feeds whole texts to a TermScan. */
+final class Due {
+    private static final int MOST_TOLD = 40;
+
+    private int asked = 0;
+    private int wrong = 0;
+
+    void is(String call, long got, long want) {
+        asked++;
+        if (got != want) {
+            fail(call + " answered " + got + ", due is " + want);
+        }
+    }
+
+    void isTrue(String what, boolean holds) {
+        asked++;
+        if (!holds) {
+            fail(what);
+        }
+    }
+
+    private void fail(String line) {
+        wrong++;
+        if (wrong <= MOST_TOLD) {
+            System.out.println(line);
+        }
+    }
+
+    void finish(String name) {
+        System.out.println(name + ": " + asked + " answers asked, " + wrong + " wrong");
+        if (wrong != 0) {
+            System.exit(1);
+        }
+    }
+
+    static void spell(TermScan x, String signs) {
+        for (int i = 0; i < signs.length(); i++) {
+            x.spell(signs.charAt(i));
+        }
+    }
+
+    static int term(TermScan x, String words, int weight, int bent) {
+        spell(x, words);
+        return x.term(weight, bent);
+    }
+
+    static int ending(TermScan x, String letters) {
+        spell(x, letters);
+        return x.ending();
+    }
+
+    static int read(TermScan x, String signs) {
+        int answer = x.told(3);
+        for (int i = 0; i < signs.length(); i++) {
+            answer = x.read(signs.charAt(i));
+        }
+        return answer;
+    }
+
+    static String mended(TermScan x) {
+        StringBuilder all = new StringBuilder();
+        int sign = x.sign(0);
+        for (int i = 1; sign != TermScan.NONE; i++) {
+            all.append((char) sign);
+            sign = x.sign(i);
+        }
+        return all.toString();
+    }
+}
