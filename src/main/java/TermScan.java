@@ -16,7 +16,6 @@ public final class TermScan {
     private final Slip slip;
     private final Lexicon lexicon;
     private final Lexicon[] images;
-    private final boolean[] kept;
     private final Text text;
     private final Scan scan;
     private final Mended mended;
@@ -29,7 +28,6 @@ public final class TermScan {
         for (int i = 0; i < IMAGES; i++) {
             images[i] = new Lexicon();
         }
-        kept = new boolean[IMAGES];
         text = new Text();
         scan = new Scan(lexicon, text);
         mended = new Mended(lexicon, text, scan);
@@ -54,8 +52,11 @@ public final class TermScan {
             return NOT;
         }
         int number = lexicon.addTerm(slip.words, parts, weight, bent);
+        if (number == NONE) {
+            return FULL;
+        }
         termsChanged();
-        return number == NONE ? FULL : number;
+        return number;
     }
 
     public int ending() {
@@ -65,8 +66,11 @@ public final class TermScan {
             return NOT;
         }
         int number = lexicon.addEnding(letters);
+        if (number == NONE) {
+            return FULL;
+        }
         termsChanged();
-        return number == NONE ? FULL : number;
+        return number;
     }
 
     public int dropTerm(int t) {
@@ -292,22 +296,24 @@ public final class TermScan {
     // ---- images
 
     public int keep(int i) {
-        if (i < 0 || i >= IMAGES) {
+        Lexicon image = imageOf(i);
+        if (image == null) {
             return UNKNOWN;
         }
-        images[i].copyFrom(lexicon);
-        kept[i] = true;
+        image.copyFrom(lexicon);
+        image.kept = true;
         return lexicon.termCount;
     }
 
     public int goBack(int i) {
-        if (i < 0 || i >= IMAGES) {
+        Lexicon image = imageOf(i);
+        if (image == null) {
             return UNKNOWN;
         }
-        if (!kept[i]) {
+        if (!image.kept) {
             return NOT;
         }
-        lexicon.copyFrom(images[i]);
+        lexicon.copyFrom(image);
         termsChanged();
         return lexicon.termCount;
     }
@@ -320,6 +326,11 @@ public final class TermScan {
 
     private static boolean isBent(int v) {
         return v == 0 || v == 1;
+    }
+
+    /** null: there is no such IMAGE. */
+    private Lexicon imageOf(int i) {
+        return i >= 0 && i < IMAGES ? images[i] : null;
     }
 
     private void termsChanged() {
@@ -474,6 +485,8 @@ public final class TermScan {
         final int[] preferred;
         int endingCount;
         final long[] endings;
+        /** Of an IMAGE: whether it has kept anything yet. */
+        boolean kept;
 
         Lexicon() {
             words = new long[MOST_TERMS * MOST_WORDS];
