@@ -413,10 +413,9 @@ public final class TermScan {
             return letters | (long) (sign - BEFORE_FIRST) << (BITS * place);
         }
 
-        /** What is left of a WORD without an ENDING; 0: it does not end so. */
-        static long without(long letters, int size, long ending) {
-            int left = size - sizeOf(ending);
-            if (left <= 0 || letters >>> (BITS * left) != ending) {
+        /** The first letters of a WORD, if the others are the ENDING; 0: they are not. */
+        static long without(long letters, long ending, int left) {
+            if (left <= 0 || left >= MOST || letters >>> (BITS * left) != ending) {
                 return 0;
             }
             return letters & ((1L << (BITS * left)) - 1);
@@ -819,7 +818,8 @@ public final class TermScan {
             forms[0] = letters;
             formCount = 1;
             for (int e = 0; e < lexicon.endingCount && formCount < forms.length; e++) {
-                long stem = Letters.without(letters, size, lexicon.endings[e]);
+                long ending = lexicon.endings[e];
+                long stem = Letters.without(letters, ending, size - Letters.sizeOf(ending));
                 if (stem != 0) {
                     forms[formCount] = stem;
                     formCount++;
