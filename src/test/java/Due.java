@@ -1,3 +1,5 @@
+import java.util.function.ToIntFunction;
+
 /** What the project's tests share: compares answers, counts those that are wrong, and feeds whole texts to a TermScan. */
 final class Due {
     private static final int MOST_TOLD = 40;
@@ -17,6 +19,35 @@ final class Due {
         if (!holds) {
             fail(what);
         }
+    }
+
+    /** The call is refused, and nothing has changed behind it, whether or not something was asked ahead of it. */
+    void refused(String call, Scene scene, ToIntFunction<TermScan> made, int want) {
+        is(call, made.applyAsInt(scene.make()), want);
+        alike(call + " changes nothing", scene.then(x -> made.applyAsInt(x)), scene);
+        alike(call + " changes nothing that was asked ahead", scene.then(Due::askAhead).then(x -> made.applyAsInt(x)), scene);
+    }
+
+    private static void askAhead(TermScan x) {
+        x.told(6);
+        x.told(11);
+    }
+
+    /** The two cannot be told apart by any question. */
+    void alike(String what, Scene got, Scene want) {
+        asked++;
+        if (!got.state().equals(want.state())) {
+            fail(what + ": " + firstApart(got.state().split("\n"), want.state().split("\n")));
+        }
+    }
+
+    private static String firstApart(String[] got, String[] want) {
+        for (int i = 0; i < got.length && i < want.length; i++) {
+            if (!got[i].equals(want[i])) {
+                return "'" + got[i] + "', due is '" + want[i] + "'";
+            }
+        }
+        return got.length + " answers, due are " + want.length;
     }
 
     private void fail(String line) {

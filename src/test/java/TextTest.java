@@ -155,7 +155,8 @@ public final class TextTest {
                     Due.ending(x, endings[e]);
                     Due.ending(y, endings[e]);
                 }
-                int n = 1 + seed % 30;
+                // Reading and asking sign by sign would take more than 512 calls for 30 lots.
+                int n = 1 + seed % 15;
                 due.is("14: drift(" + n + ", " + seed + ")", x.drift(n, seed), Due.read(y, lots(n, seed, terms, endings, with)));
                 for (int what = 3; what <= 11; what++) {
                     due.is("14: drift(" + n + ", " + seed + "), told(" + what + ")", x.told(what), y.told(what));
