@@ -148,7 +148,7 @@ public final class RulesTest {
     }
 
     private static void run(TermScan x) {
-        for (int i = 0; i < 20; i++) {
+        for (int i = 0; i < 15; i++) {
             x.spell('a' + i % 3);
             x.spell(i % 2 == 0 ? ' ' : 'b');
             x.spell('a' + i / 3);
